@@ -20,6 +20,7 @@ public final class ChanceTest {
         testTripOverLand();
         testBest();
         testBestTies();
+        testBestOfMany();
         testNoRow();
         testBestByToday();
         CHECK.end();
@@ -353,6 +354,30 @@ public final class ChanceTest {
         due("20 hundredths of 5", x.best(0), 1);
         due("the first at 17", x.best(10), 17);
         due("the second finds", x.best(11), 35);
+    }
+
+    private static void testBestOfMany() {
+        IceSearch x = lostAt(34, 1);
+        for (int cell = 17; cell <= 19; cell++) {
+            x.find(4, cell, 1, 1, 90 - cell, -1, 0);
+        }
+        int[] want = {33, 34, 35, 49};
+        for (int i = 0; i < 4; i++) {
+            x.ship(34, 1, 100);
+        }
+        due("four of nine", x.best(0), 444444445);
+        for (int i = 0; i < 4; i++) {
+            due("four of nine: " + i, x.best(10 + i), want[i]);
+        }
+        x = lostAt(0, 1);
+        for (int cell = 2; cell < 256; cell++) {
+            x.land(cell, true);
+        }
+        x.ship(0, 0, 100);
+        x.ship(0, 1, 100);
+        due("the first at the CELL 0", x.best(10), 0);
+        due("the second at the CELL 1", x.best(11), 1);
+        due("all", x.best(0), 1000000000);
     }
 
     private static void testNoRow() {

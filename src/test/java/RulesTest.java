@@ -117,6 +117,17 @@ public final class RulesTest {
         bad("stay if not;", 11);
         bad("stay if not", 11);
         bad("stay if 1=year;", 8);
+        bad("stay if (year<1<;", 15);
+        bad("stay if (year<1=;", 15);
+        bad("stay if year(1;", 12);
+        bad("stay if <1;", 8);
+        bad("stayz;", 0);
+        bad("stay if menz=1;", 8);
+        bad("stay if amen=1;", 8);
+        bad("stay if nen=1;", 8);
+        bad("xtay;", 0);
+        bad("gp north;", 0);
+        bad("pay 1 fox told;", 6);
     }
 
     private static void testOpen() {
@@ -236,6 +247,11 @@ public final class RulesTest {
         due("the tape is empty", x.count(13), 0);
         due("without statements", x.beside(0), 0);
         due("they stay", x.tried(0, 3), 0);
+        for (int i = 1; i < 30; i++) {
+            String text = "stay if men=" + i + " and(year=0 or not food=1)" + " or men=0".repeat(30) + ";leave;";
+            due("beside, the time " + i, Texts.beside(x, text), 0);
+            due("tried, the time " + i, x.tried(0, 3), i == 9 ? 0 : 1);
+        }
     }
 
     private static void testFaultKept() {
@@ -362,8 +378,10 @@ public final class RulesTest {
     private static void testWouldLogic() {
         String[] holding = {"men=20 or men=1 and men=2", "(men=20 or men=1) and men>19", "not men=1", "not not men=20",
             "not (men=20 and men=1)", "not men=1 and men=20", "not men=20 or men=20", "men=1 and men=2 or men=20",
-            "men=1 or men=2 or men=20", "men=20 and men>1 and men<99999", "not(men=20)or not(men=21)"};
-        String[] failing = {"(men=20 or men=1) and men=2", "not men=20", "not (men=20 or men=1)",
+            "men=1 or men=2 or men=20", "men=20 and (men=20 and men>1)", "men=20 and (men=1 or (men=20 and men>1))",
+            "men=1 or men=20 and (men=20 and (men=1 or men=20))", "men=20 and men>1 and men<99999", "not(men=20)or not(men=21)"};
+        String[] failing = {"year<0", "men=20 and (men=20 and men=1)", "men=1 or (men=1 or (men=20 and men=1))",
+            "(men=20 or men=1) and men=2", "not men=20", "not (men=20 or men=1)",
             "not men=1 and men=1", "not men=20 and men=1 or men=2", "men=20 and men=1 or men=20 and men=2",
             "not not men=1", "not (not men=20 or men=20)", "men=20 and not(men>1 or men=5)"};
         for (String text : holding) {

@@ -50,7 +50,9 @@ public final class TellTest {
         due("new: best(0)", x.best(0), -1);
         due("new: found(0, 0)", x.found(0, 0), -2);
         due("new: tried(0, 0)", x.tried(0, 0), -2);
+        due("new: most(0, 0)", x.most(0, 0), 0);
         due("new: set", x.set(119, 50), true);
+        due("new: staying", x.at(0, 0, 119), 1);
         for (int cell = 1; cell < 256; cell++) {
             due("new: all sea, at " + cell, x.at(0, cell, 15 + cell % 9), 1);
         }
@@ -366,6 +368,7 @@ public final class TellTest {
         due("home 256", x.home(256, true), false);
         due("HOME CELLS", x.count(9), 0);
         due("no more, though it wasn't", x.home(7, false), true);
+        due("none still", x.count(9), 0);
         due("home 0", x.home(0, true), true);
         due("home 255", x.home(255, true), true);
         due("home 255 again", x.home(255, true), true);

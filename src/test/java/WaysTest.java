@@ -13,6 +13,7 @@ public final class WaysTest {
         testNothing();
         testIceByYear();
         testAshore();
+        testEdges();
         testMost();
         testAt();
         testSure();
@@ -203,6 +204,24 @@ public final class WaysTest {
         due("ends", x.ends(0), 36);
         x.ice(36, 0, true);
         due("over SHUT cells, too", x.at(0, 36, 4), 1);
+    }
+
+    private static void testEdges() {
+        int[] starts = {0, 15, 240, 255, 8, 128, 143, 248, 136};
+        for (int start : starts) {
+            IceSearch x = new IceSearch();
+            x.lost(start, 10, 100, -1);
+            x.set(1, 50);
+            int ends = 0;
+            for (int cell = 0; cell < 256; cell++) {
+                int rows = Math.abs(start / 16 - cell / 16);
+                int columns = Math.abs(start % 16 - cell % 16);
+                int want = rows <= 1 && columns <= 1 ? 1 : 0;
+                due("from " + start + " to " + cell, x.at(0, cell, 1), want);
+                ends += want;
+            }
+            due("ends from " + start, x.ends(0), ends);
+        }
     }
 
     private static void testMost() {
@@ -403,5 +422,9 @@ public final class WaysTest {
         due("STEP 119", x.judge(0), -1);
         x.find(4, 36, 119, 119, 100, -1, 0);
         due("against STEP 119", x.judge(0), 119);
+        x = lostAt34(0);
+        x.find(0, 34, 0, 0, 0, -1, 0);
+        move(x, 3);
+        due("met on STEP 0", x.judge(0), -1);
     }
 }
