@@ -378,8 +378,9 @@ public final class RulesTest {
     private static void testWouldLogic() {
         String[] holding = {"men=20 or men=1 and men=2", "(men=20 or men=1) and men>19", "not men=1", "not not men=20",
             "not (men=20 and men=1)", "not men=1 and men=20", "not men=20 or men=20", "men=1 and men=2 or men=20",
-            "men=1 or men=2 or men=20", "men=20 and (men=20 and men>1)", "men=20 and (men=1 or (men=20 and men>1))",
-            "men=1 or men=20 and (men=20 and (men=1 or men=20))", "men=20 and men>1 and men<99999", "not(men=20)or not(men=21)"};
+            "men=1 or men=2 or men=20", "men=20 or year<0", "year<0 or men=20", "men=20 and (men=20 and men>1)",
+            "men=20 and (men=1 or (men=20 and men>1))", "men=1 or men=20 and (men=20 and (men=1 or men=20))",
+            "men=20 and men>1 and men<99999", "not(men=20)or not(men=21)"};
         String[] failing = {"year<0", "men=20 and (men=20 and men=1)", "men=1 or (men=1 or (men=20 and men=1))",
             "(men=20 or men=1) and men=2", "not men=20", "not (men=20 or men=1)",
             "not men=1 and men=1", "not men=20 and men=1 or men=2", "men=20 and men=1 or men=20 and men=2",
@@ -601,7 +602,8 @@ public final class RulesTest {
             due("RULES " + text, Texts.rules(x, text), rules.fault == -1 ? 0 : -1);
             due("FAULT of " + text, x.fault(), rules.fault);
         }
-        good("stay if year=0 or(year=1 and(step=2 or not(men=3 and(food=4 or(year=1 and(step=2 or(men=3 and food=4)))))));");
+        good("stay if year=0 or(year=1 and(step=2 or not(men=3 and(food=4 or(year=1 and(step=2 or(men=3 "
+            + "and food=4)))))));");
         StringBuilder chain = new StringBuilder("leave if men=1");
         while (chain.length() < 680) {
             chain.append(" or men=1 and men=20");
