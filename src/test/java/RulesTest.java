@@ -247,7 +247,7 @@ public final class RulesTest {
         due("the tape is empty", x.count(13), 0);
         due("without statements", x.beside(0), 0);
         due("they stay", x.tried(0, 3), 0);
-        for (int i = 1; i < 30; i++) {
+        for (int i = 1; i < 20; i++) {
             String text = "stay if men=" + i + " and(year=0 or not food=1)" + " or men=0".repeat(30) + ";leave;";
             due("beside, the time " + i, Texts.beside(x, text), 0);
             due("tried, the time " + i, x.tried(0, 3), i == 9 ? 0 : 1);
